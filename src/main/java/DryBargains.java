@@ -930,7 +930,7 @@ public final class DryBargains {
 
         // halves are bits from 1 on, so that a place left of the wall has a bit too
         static int maskOf(int kind, int half) {
-            return (1 << lengthOf(kind)) - 1 << half + 1;
+            return (kind >= BRIDGE ? 7 : 3) << half + 1;
         }
 
         /** The middle half of a bridge. */

@@ -96,6 +96,9 @@ public final class RowsTextsTest {
             x.tear(5);
             finds(x, "at(0, " + i + ")", x.at(0, i), BEYOND);
         }
+        x.row(1, 0);
+        finds(x, "lay in a ROW of none", x.lay(1, 0, 1), BEYOND);
+        finds(x, "at in a ROW of none", x.at(1, 0), BEYOND);
         DUE.is("lay(0, 2, 5)", x.lay(0, 2, 5), 1);
         DUE.is("it was 0", x.asked(), 0);
         DUE.is("lay(0, 2, min)", x.lay(0, 2, Integer.MIN_VALUE), 1);
@@ -155,6 +158,11 @@ public final class RowsTextsTest {
             x.row(3, -1);
             finds(x, "beyond", x.copy(0, a[0], 1, a[1], a[2]), BEYOND);
         }
+        x.row(2, 0);
+        finds(x, "from a ROW of none", x.copy(2, 0, 1, 0, 1), BEYOND);
+        x.row(3, -1);
+        finds(x, "to a ROW of none", x.copy(0, 0, 2, 0, 1), BEYOND);
+        DUE.is("none of none", x.copy(2, 0, 2, 0, 0), 1);
         DUE.is("none, at the ends", x.copy(0, 5, 1, 3, 0), 1);
         DUE.is("two", x.copy(0, 3, 1, 1, 2), 1);
         holds(x, 1, 0, 4, 5);
@@ -214,6 +222,9 @@ public final class RowsTextsTest {
         x.text(0, 2);
         finds(x, "put(0, 2, 0)", x.put(0, 2, 0), BEYOND);
         finds(x, "put(0, -1, 0)", x.put(0, -1, 0), BEYOND);
+        x.text(1, 0);
+        x.tear(0);
+        finds(x, "put in a TEXT of none", x.put(1, 0, 0), BEYOND);
         DUE.is("put(0, 0, 255)", x.put(0, 0, 255), 1032);
         DUE.is("255 is -1", x.put(0, 0, 128), 999);
         DUE.is("128 is -128", x.put(0, 0, 127), 872);
@@ -262,6 +273,7 @@ public final class RowsTextsTest {
         faults("w5b", 3);
         faults("w5b 00AB", 3);
         faults("w5b60AB", 3);
+        faults("w9b00ABx02AB", 7);
         faults("w5b/0AB", 3);
         faults("w5b50AB", NONE);
         faults("w5b0", 4);

@@ -377,6 +377,11 @@ public final class StandingTest {
         DUE.is("all stand", z.stands(), (1 << 9) - 1);
         DUE.is("ARCHES first in each COURSE", z.ahead(0, 3), 4);
         row(z, 3, 7, 6, 4, 3);
+        DryBargains top = Due.wall("w9 b00AB r10AB b20AB r30AB b40AB a50AB b42AB");
+        top.wedge(1, 1);
+        top.wedge(3, 1);
+        DUE.is("up to the highest COURSE", top.ahead(3, 3), 3);
+        row(top, 3, 5, 4, 6);
     }
 
     private static void rests() {

@@ -93,6 +93,8 @@ public final class TownTest {
         DUE.is("upon that", x.soon(), 20);
         DUE.is("three", x.asked(), 3);
         DUE.is("nothing is set by it", x.count(0), 3);
+        DUE.is("nothing is set by it", x.count(1), 3);
+        DUE.is("nothing is set by it", x.stands(), 7);
         DryBargains y = Due.wall("w2 b00AB b10AB b20AB b30AB b40AB b50AB");
         y.brick(3, 1);
         DUE.is("none", y.soon(), NONE);

@@ -214,6 +214,15 @@ public final class YearsTest {
         y.draw(2);
         y.vine(0);
         DUE.is("over no hole, not by one that is OUT, not by corners", y.go(9), 1);
+        DryBargains right = Due.wall("w9 b00AB b03AB r06AB");
+        right.vine(2);
+        DUE.is("1 is left of 2 by a hole", right.go(9), 1);
+        DryBargains next = Due.wall("w9 b00AB b02AB r04AB b07CD");
+        next.vine(2);
+        next.go(1);
+        has(next, 1, 2);
+        next.go(2);
+        has(next, 0, 1, 2, 3);
         DryBargains z = Due.wall("w9 b00AB b12AB b10AB b20AB");
         z.vine(0);
         z.go(1);
