@@ -2,7 +2,6 @@ import java.util.function.Consumer;
 
 /** The boundary cases of what stands and what falls: 'Terms' and promises 19 to 22, 28, 29. */
 public final class StandEdgesTest {
-    private static final int NONE = -9;
     private static final String FOURTEEN = "w9b00ABb02ABb04ABb06ABb10ABb12ABb14ABb16ABb20ABb22ABb24ABb26ABb30ABb32AB";
     private static final String STEPS = "w6 b00AB b02BC b04CD b11DE b13EF";
     private static final Due DUE = new Due("StandEdgesTest");
