@@ -9,6 +9,7 @@ public final class WallEdgesTest {
         everySignOfAnItem();
         everySignOfATriple();
         endsTooEarly();
+        endsWhereALongerOneWas();
         noW();
         blanksAround();
         blanksWithin();
@@ -110,6 +111,24 @@ public final class WallEdgesTest {
                 ends |= f == n;
             }
             fault(text.substring(0, n), ends ? NONE : n);
+        }
+    }
+
+    /** What a longer text had there ahead of it is none of a shorter one. */
+    private static void endsWhereALongerOneWas() {
+        DUE.promise("the TEXT's size, where a longer TEXT was");
+        String text = "w9 t12ABF b34CD";
+        int[] fine = {2, 3, 9, 10, 15};
+        for (int n = 0; n <= text.length(); n++) {
+            DryBargains x = new DryBargains();
+            Due.write(x, 0, text);
+            Due.write(x, 0, text.substring(0, n));
+            boolean ends = false;
+            for (int f : fine) {
+                ends |= f == n;
+            }
+            DUE.is("'" + text.substring(0, n) + "' behind '" + text + "'", x.fault(0), ends ? NONE : n);
+            DUE.is("its WALL", x.wall(0), !ends ? Refused.STATE : n < 9 ? 0 : n < 15 ? 1 : 2);
         }
     }
 
